@@ -493,7 +493,7 @@ public final class MangleTown {
         }
     }
 
-    /** The TAPE, read as tape, one at a time, and the FAULT at which the reading ended. */
+    /** The TAPE, read as tokens, one at a time, and the FAULT at which the reading ended. */
     private static final class Tape {
         static final int END = 0;
         static final int NOTHING = 1;
@@ -555,6 +555,7 @@ public final class MangleTown {
                 kind = END;
             } else if (next >= 'a' && next <= 'z') {
                 readWord();
+                word = kind == WORD ? Word.spelled(letters) : Word.OTHER;
             } else if (next >= '0' && next <= '9') {
                 readNumber();
             } else {
@@ -570,9 +571,7 @@ public final class MangleTown {
                 letters = letters * Word.BASE + (text[behind] - 'a' + 1);
                 behind++;
             }
-            boolean isWord = behind - place <= MOST_LETTERS;
-            kind = isWord ? WORD : NOTHING;
-            word = isWord ? Word.spelled(letters) : Word.OTHER;
+            kind = behind - place <= MOST_LETTERS ? WORD : NOTHING;
         }
 
         private void readNumber() {

@@ -110,6 +110,9 @@ public final class AskedTest {
         around("P18 all of all", three + "shuns a b;shuns b a;shuns a e;shuns e a;shuns b e;shuns e b;", 3);
         around("P18 the third shuns and is shunned", three + "shuns a e;shuns e a;shuns b e;shuns e b;", 4);
         String cat = two + "house k cat thick 1 wet 0 ink 0;";
+        around("P18 a cat between", cat + "shuns k b;shuns a b;", 0);
+        around("P18 a cat that shuns both and one that shuns all", cat + "house m cat thick 1 wet 0 ink 0;"
+                + "shuns k a;shuns k b;shuns m b;shuns b a;", 0);
         around("P18 a cat goes first", cat + "shuns k a;shuns k b;", 0);
         around("P18 nobody is behind a cat", cat + "shuns a k;shuns b k;", 0);
         MangleTown x = Checks.of(three + "shuns a b;shuns b a;shuns a e;shuns e a;shuns b e;shuns e b;");
@@ -133,6 +136,15 @@ public final class AskedTest {
         c.due("P19 114 (14 + 4 + 2 * 48)", x.till(114), 97);
         c.due("P19 116 (14 + 4 + 2 * 49)", x.till(116), 99);
         c.due("P19 117", x.till(117), -1);
+        c.due("P19 1", x.till(1), 0);
+        MangleTown slow = Checks.of("house a plain thick 1 wet 0 ink 0;rains 1 1 1 1 1 1 1 1 1 1 1 0;presses 0;");
+        c.due("P19 99 runs", slow.till(91), 99);
+        c.due("P19 100 runs are too many", slow.till(92), -1);
+        StringBuilder full = new StringBuilder();
+        for (char n = 'a'; n <= 'g'; n++) {
+            full.append("house ").append(n).append(" cat thick 9 wet 99 ink 0;");
+        }
+        c.due("P19 693", Checks.of(full.toString()).till(693), 0);
         c.due("P19 nothing is done", x.count(3), 0);
         x.road(1);
         c.due("P19 on the road it rains, too", x.till(19), 1);
@@ -154,6 +166,10 @@ public final class AskedTest {
         c.due("P20 nobody", new MangleTown().dry(99), -1);
         c.due("P20 not within 99", Checks.of("house a plain thick 1 wet 9 ink 0;").dry(0), -1);
         c.due("P20 99 runs", Checks.of("house a plain thick 1 wet 99 ink 0;rains 0;presses 1;").dry(0), 99);
+        MangleTown slow = Checks.of("house a plain thick 1 wet 99 ink 0;rains 0 0 0 0 0 0 0 0 0 0 0 1;presses 1;");
+        c.due("P20 99 runs, 8 of them for nothing", slow.dry(8), 99);
+        c.due("P20 100 runs are too many", slow.dry(7), -1);
+        c.due("P20 99 is enough", slow.dry(99), 0);
         c.due("P20 nothing is done", x.count(3), 0);
     }
 

@@ -56,6 +56,10 @@ public final class GamesTest {
         three.road(0);
         c.due("P29 only those that go", three.pin(10, 1, 0), 1);
         c.due("P29 only their thickness", three.pin(10, 1, 1), 500000);
+        MangleTown alone = Checks.of("house a cat thick 7 wet 0 ink 0;");
+        c.due("P29 alone", alone.pin(10, 1, 1), 1000000);
+        c.due("P29 alone, by nine of ten", alone.pin(9, 8, 1), 999999);
+        c.due("P29 alone, by one of ten", alone.pin(1, 8, 1), 569532);
         c.noSuch("P29 odds below", () -> x.pin(-1, 1, 0));
         c.noSuch("P29 odds beyond", () -> x.pin(11, 1, 0));
         c.noSuch("P29 times below", () -> x.pin(5, 0, 0));
@@ -94,6 +98,8 @@ public final class GamesTest {
         c.due("P30 equal: the first has it", holds(x, 6, 4, 44), 1);
         c.due("P30 the other one would rather have it", holds(x, 6, 4, 30), 0);
         c.due("P30 the first would rather not", holds(x, 3, 9, 55), 0);
+        c.due("P30 only by 9 would the other one get more", holds(x, 9, 9, 80), 0);
+        c.due("P30 only by 0 would the first get more", holds(x, 0, 0, 11), 0);
     }
 
     private static int holds(MangleTown x, int one, int other, int bids) {

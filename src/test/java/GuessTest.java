@@ -143,6 +143,17 @@ public final class GuessTest {
         x.see(0, 6);
         c.due("P25 a circle", x.orders(), 0);
         row("P26 no order", x, -1, -1, -1, -1, -1, -1, -1);
+        MangleTown two = giving(1, 2, 3);
+        two.see(0, 2);
+        two.see(1, 2);
+        c.due("P25 two ahead of one", two.orders(), 2);
+        c.due("P27 the two", two.ask(), 1);
+        MangleTown anew = giving(1, 2);
+        anew.see(1, 0);
+        row("P26 seen", anew, 1, 0);
+        Checks.town(anew, "house a cat thick 1 wet 0 ink 0;house b cat thick 1 wet 0 ink 0;");
+        row("P26 nothing seen of another town", anew, 0, 1);
+        c.due("P25 nothing seen of another town", anew.orders(), 2);
         MangleTown cats = Checks.of("house a cat thick 1 wet 0 ink 0;house b cat thick 1 wet 0 ink 0;");
         c.due("P25 cats count", cats.orders(), 2);
         cats.see(1, 0);

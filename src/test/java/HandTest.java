@@ -12,6 +12,7 @@ public final class HandTest {
         running();
         runningByLaws();
         bounds();
+        seven();
         selling();
         undoing();
         marking();
@@ -182,6 +183,37 @@ public final class HandTest {
         MangleTown none = new MangleTown();
         c.due("P12 nobody", none.run(), 0);
         c.due("P12 the next fortnight", none.count(3), 1);
+    }
+
+    /** Rows are full with seven houses: every call must keep within them. */
+    private static void seven() {
+        StringBuilder many = new StringBuilder();
+        for (char n = 'a'; n <= 'g'; n++) {
+            many.append("house ").append(n).append(" plain thick 2 wet 8 ink 1;");
+        }
+        MangleTown x = Checks.of(many + "shuns g a;price 1;");
+        c.due("P10 first to last", x.put(0, 6), true);
+        row("P10 seven", x, 1, 2, 3, 4, 5, 6, 0);
+        c.due("P10 last to first", x.put(0, 0), true);
+        row("P10 seven", x, 0, 1, 2, 3, 4, 5, 6);
+        c.due("P7 the last", x.ahead(6), 5);
+        c.due("P16 none", x.shunned(), 0);
+        c.due("P17 one's ink for each but one", x.best(-1), 6);
+        c.due("P17 the last", x.best(6), 6);
+        c.due("P18 none", x.around(), 0);
+        c.due("P19 now", x.till(56), 0);
+        c.due("P20 one run", x.dry(5), 1);
+        c.due("P22 all", x.sets(0), 128);
+        c.due("P22 in some", x.sets(2), 127);
+        c.due("P23 the first", x.look(), 0);
+        c.due("P26 the last", x.first(6), 6);
+        c.due("P27 the first two", x.ask(), 1);
+        c.due("P28 2*142", x.share(6), 284);
+        c.due("P29 the second", x.pin(9, 2, 0), 1);
+        c.due("P12 4 of each", x.run(), 28);
+        c.due("P9 on all but the first", x.count(9), 6);
+        c.due("P33 wet", x.count(8), 35);
+        c.due("P31 one fortnight", x.decades(0, 1, 0) > 0, true);
     }
 
     private static void selling() {

@@ -91,6 +91,8 @@ public final class TellingTest {
         fault("price 1;price 1;", at(3, 8));
         fault("presses 1;presses 1;", at(3, 10));
         fault("prints 1;prints 1;", at(3, 9));
+        fault("gap 1;price 1;gap 1;", at(3, 14));
+        fault("rains 1;prints 1;presses 1;prints 2;", at(3, 27));
         fault("gap 20;", 0);
         fault("gap 21;", at(4, 4));
         fault("gap 0;", at(4, 4));
@@ -102,6 +104,7 @@ public final class TellingTest {
         fault("rains 10;", at(4, 6));
         fault("rains 1 2 3 4 5 6 7 8 9 0 1 2;", 0);
         fault("rains 1 2 3 4 5 6 7 8 9 0 1 2 3;", at(5, 30));
+        fault("rains 1 2 3 4 5 6 7 8 9 0 1 2 9;", at(5, 30));
         fault("rains 1 2 3 4 5 6 7 8 9 0 1 2 10;", at(4, 30));
         fault("rains 1 2 3 4 5 6 7 8 9 0 1 2 a;", at(1, 30));
         fault("gap 0; ?", at(4, 4));
@@ -139,6 +142,11 @@ public final class TellingTest {
         fault("presses 1+*2;", at(1, 10));
         fault("presses ((((1))));", 0);
         fault("presses (((((1)))));", at(5, 13));
+        fault("presses 1+(((((1)))));", at(5, 15));
+        fault("presses 1*(((((1)))));", at(5, 15));
+        fault("presses 1<(((((1)))));", at(5, 15));
+        fault("presses 1=(((((1)))));", at(5, 15));
+        fault("presses 1 or(((((1)))));", at(5, 17));
         fault("presses not not not not 1;", 0);
         fault("presses not not not not not 1;", at(5, 28));
         fault("presses not not not not not not 1;", at(5, 28));
@@ -207,7 +215,9 @@ public final class TellingTest {
         x.sell(1);
         x.hear(9);
         x.see(0, 1);
-        x.mark(2, false);
+        for (int i = 0; i < 4; i++) {
+            x.mark(i, false);
+        }
         Checks.years(x, "run;");
         c.due("P3 faulty", Checks.town(x, "gap 7;gap"), at(3, 6));
         c.due("P3 gap stays", x.count(1), 5);
@@ -220,7 +230,9 @@ public final class TellingTest {
         for (int i = 0; i < want.length; i++) {
             c.due("P3 anew, count " + i, x.count(i), want[i]);
         }
-        c.due("P3 no mark", x.mark(2, true), false);
+        for (int i = 0; i < 4; i++) {
+            c.due("P3 no mark", x.mark(i, true), false);
+        }
         c.due("P3 kind", x.house(0, 0), 3);
         c.due("P3 names of the new town", Checks.years(x, "road a;"), at(2, 5));
         c.due("P3 second town's shuns are its own", Checks.town(x, house("a", "plain", 3, 7, 1)
@@ -228,6 +240,22 @@ public final class TellingTest {
         c.due("P3 shunned", x.shunned(), 1);
         c.due("P3 third", Checks.town(x, house("a", "plain", 3, 7, 1) + house("b", "plain", 3, 7, 1)), 0);
         c.due("P3 no shuns told", x.shunned(), 0);
+    }
+
+    /** As many tokens as a tape can hold. */
+    private static void longest() {
+        StringBuilder all = new StringBuilder("house a cat thick 1 wet 99 ink 1;presses 1");
+        while (all.length() + 5 <= 1000) {
+            all.append("-0+0");
+        }
+        all.append(";");
+        c.due("P8 the longest law", Checks.of(all.toString()).pressed(0), 1);
+        StringBuilder ones = new StringBuilder("house a cat thick 1 wet 99 ink 1;presses 1");
+        while (ones.length() + 3 <= 1000) {
+            ones.append("*1");
+        }
+        ones.append(";");
+        c.due("P8 the longest product", Checks.of(ones.toString()).pressed(0), 1);
     }
 
     private static void press(String law, int want) {
@@ -271,6 +299,8 @@ public final class TellingTest {
             full.append("+1");
         }
         press(full.toString(), 41);
-        press("0 or 0=0+1*(0 or 0=0+1*(0 or 0=0+1*(0 or 0=0+1*9)))", 1);
+        press("0 or 5=2+3*(0 or 5=2+3*(0 or 5=2+3*(0 or 5=2+3*(0 or 5=2+3*1))))", 1);
+        press("0 or 5=2+3*(0 or 5=2+3*(0 or 5=2+3*(0 or 5=2+3*(0 or 5=2+3*2))))", 0);
+        longest();
     }
 }
