@@ -25,6 +25,7 @@ public final class EdgeAskTest {
         aroundLeastSet();
         aroundThoseThatGo();
         aroundCats();
+        aroundOfAnother();
         tillOthers();
         tillNow();
         tillOrMore();
@@ -252,6 +253,22 @@ public final class EdgeAskTest {
         e.due("P18 none goes behind a cat", Checks.of(three + "shuns a k;shuns a m;").around(), 0);
         e.due("P18 cats go first", Checks.of(three + "shuns k a;shuns m a;").around(), 0);
         e.due("P18 cats that shun cats", Checks.of(CATS + "shuns k m;shuns m k;").around(), 0);
+    }
+
+    /** Promises 17, 18: by the TOWN as it is now: nothing of what was asked of another one. */
+    private static void aroundOfAnother() {
+        MangleTown x = Checks.of(THREE + "prints 0;");
+        e.due("P18 nobody shuns", x.around(), 0);
+        best("P17 nothing printed", x, 0, 0, 1, 2);
+        Checks.town(x, THREE + ALL_SHUN + "prints 9;");
+        e.due("P18 all shun", x.around(), 3);
+        best("P17 9 on two", x, 18, 0, 1, 2);
+        Checks.town(x, Edges.house("a", "plain", 4, 9, 1) + Edges.house("b", "plain", 4, 9, 9) + "shuns b a;");
+        e.due("P18 b goes first", x.around(), 0);
+        best("P17 b goes first", x, 9, 1, 0);
+        Checks.town(x, THREE);
+        e.due("P18 nobody shuns", x.around(), 0);
+        best("P17 1 on two", x, 2, 0, 1, 2);
     }
 
     /** Promise 19: "TILL; NONE: others": "so much (1 to 693)". */

@@ -433,6 +433,8 @@ public final class EdgeGuessTest {
         e.due("P27 6 of 12", seen(4, 0, 1).ask(), 19);
         // 0, 1, 2 in a row, 3 anywhere: 4 rows; 3 and 1 part them in halves.
         e.due("P27 2 of 4", seen(4, 0, 1, 1, 2).ask(), 11);
+        // 1, 2, 3 in a row, 0 anywhere: 0 and 2 part them in halves.
+        e.due("P27 2 of 4, by what the other one is behind already", seen(4, 1, 2, 2, 3).ask(), 2);
     }
 
     /** Terms: ASK "of equal ones the first". */

@@ -10,6 +10,7 @@ public final class EdgeLawTest {
         withinFiveElse();
         withinBesides();
         withinOfPrints();
+        withinMost();
         factsOfPresses();
         factsOfPrints();
         noFacts();
@@ -123,11 +124,30 @@ public final class EdgeLawTest {
         e.noTown("presses ((((1))));prints (((((1)))));", 5, 30);
     }
 
+    /** Terms: "no PART lies within 5": as deep as can be, with all that can wait on the left of each. */
+    private static void withinMost() {
+        String waits = "0 or 5=2+3*(";
+        worth(waits.repeat(4) + "0 or 5=2+3*1" + "))))", 1);
+        worth(waits.repeat(4) + "0 or 5=2+3*2" + "))))", 0);
+        wrong(waits.repeat(5) + "1)))))", 5, 5 * waits.length());
+        String nots = "1 and 2<9-4*not ";
+        worth("1 and 2<9-4*not not not not wide", 1);
+        worth(nots + "(1 and 2<9-4*not (1 and 3<9-3*wide))", 1);
+    }
+
     /** Terms: "Facts: wide (the HOUSE's thickness), damp (its wet now), between (the gap now)". */
     private static void factsOfPresses() {
         worth("wide", 7);
         worth("damp", 99);
         worth("between", 4);
+        // Behind what waits on their left, too.
+        worth("1+2*wide", 15);
+        worth("1 and 0=2*wide-14", 1);
+        worth("1+0*damp", 1);
+        worth("1+2*between", 9);
+        printed("1+2*wall-8", 7);
+        printed("1+2*black", 7);
+        printed("1 or 1+2*black", 1);
     }
 
     private static void printed(String law, int want) {

@@ -2,8 +2,6 @@
 public final class EdgeTownTest {
     private static final Edges e = new Edges();
     private static final String[] KINDS = {"plain", "stout", "sharp", "cat"};
-    private static final String[] KEPT = {"house", "thick", "wet", "ink", "shuns", "gap", "rains", "price",
-        "presses", "prints", "put", "road", "run", "sell", "plain", "stout", "sharp", "cat", "not", "and", "or"};
     private static final String A = Edges.house("a", "plain", 1, 0, 0);
     private static final String B = Edges.house("b", "plain", 1, 0, 0);
     private static final String SEVEN = Edges.plain(7, 1, 0, 0);
@@ -43,6 +41,7 @@ public final class EdgeTownTest {
         placeFromNought();
         faultLeavesAll();
         anew();
+        anewTwice();
         anewOfNothing();
         anewOfNothingButALine();
         e.end();
@@ -347,7 +346,7 @@ public final class EdgeTownTest {
     /** Terms: "A NAME is another WORD than house, thick, [..] or": none of them can stand there. */
     private static void namesKept() {
         int two = A.length() * 2;
-        for (String word : KEPT) {
+        for (String word : Edges.KEPT) {
             e.noTown("house " + word + " plain thick 1 wet 0 ink 0;", 1, 6);
             e.noTown(A + B + "shuns " + word + " a;", 1, two + 6);
             e.noTown(A + B + "shuns a " + word + ";", 1, two + 8);
@@ -359,7 +358,7 @@ public final class EdgeTownTest {
         for (String word : new String[] {"wide", "damp", "between", "black", "wall", "o", "zzzzzzzz"}) {
             told(Edges.house(word, "plain", 1, 0, 0));
         }
-        for (String word : KEPT) {
+        for (String word : Edges.KEPT) {
             told(Edges.house(word + "s", "plain", 1, 0, 0));
             told(Edges.house(word.substring(1), "plain", 1, 0, 0));
         }
@@ -467,6 +466,30 @@ public final class EdgeTownTest {
         e.due("P3 anew, all sets", x.sets(0), 4);
         e.due("P3 anew, all orders", x.orders(), 2);
         e.due("P3 anew, the elder names are gone", Checks.years(x, "road inn;"), Edges.at(2, 5));
+    }
+
+    /** Terms: "Without a FAULT a TOWN is the TOWN": nothing of the one before the last is left either. */
+    private static void anewTwice() {
+        String bare = A + B;
+        MangleTown x = told(bare + "shuns b a;shuns a b;gap 9;price 9;rains 9 9 9;presses 7;prints 7;");
+        for (int i = 0; i < 3; i++) {
+            e.due("P3 a bare town", Checks.town(x, Edges.plain(2, 7, 40, 2)), 0);
+            e.due("P3 no shuns told", x.shunned() + x.around(), 0);
+            e.due("P3 no gap told", x.count(1), 5);
+            e.due("P3 no price told", x.count(2), 3);
+            e.due("P3 no rains told", x.count(4), 1);
+            e.due("P3 no presses told", x.pressed(0), 40);
+            e.due("P3 no prints told", x.blot(0, 1), 2);
+            x.run();
+            e.due("P3 no rains told", x.count(4), 1);
+        }
+        e.due("P3 a fault behind laws", Checks.town(x, bare + "shuns a b;presses 7;prints 7;x"),
+                Edges.at(1, bare.length() + 29));
+        e.due("P3 a bare town", Checks.town(x, Edges.plain(2, 7, 40, 2)), 0);
+        e.due("P3 no presses told", x.pressed(0), 40);
+        e.due("P3 no prints told", x.blot(0, 1), 2);
+        x.put(1, 0);
+        e.due("P3 no shuns told", x.shunned(), 0);
     }
 
     /** Terms: "Without a FAULT a TOWN is the TOWN": one of no signs, too. */

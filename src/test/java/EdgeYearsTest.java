@@ -1,8 +1,6 @@
 /** Boundaries of promises 4 and 15: years told, and judged. One test for each sentence. */
 public final class EdgeYearsTest {
     private static final Edges e = new Edges();
-    private static final String[] KEPT = {"house", "thick", "wet", "ink", "shuns", "gap", "rains", "price",
-        "presses", "prints", "put", "road", "run", "sell", "plain", "stout", "sharp", "cat", "not", "and", "or"};
     /** 40 pints by the first run, none by later ones; two coins a pint. */
     private static final String FORTY_PINTS = Edges.house("a", "plain", 9, 40, 1) + Edges.house("b", "plain", 9, 0, 1)
             + "rains 0;price 2;";
@@ -152,7 +150,7 @@ public final class EdgeYearsTest {
 
     /** Terms: "A NAME is another WORD than house, thick, [..] or": such a one can't stand there. */
     private static void namesKept() {
-        for (String word : KEPT) {
+        for (String word : Edges.KEPT) {
             wrong("put " + word + " 0;", 1, 4);
             wrong("road " + word + ";", 1, 5);
         }

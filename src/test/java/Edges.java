@@ -4,6 +4,9 @@ import java.util.NoSuchElementException;
 final class Edges {
     static final int NO_SUCH = Integer.MIN_VALUE;
     static final int[] FAR_OFF = {Integer.MIN_VALUE, -2147483647, -1000000, 1000000, Integer.MAX_VALUE};
+    /** The words that no house can be named by. */
+    static final String[] KEPT = {"house", "thick", "wet", "ink", "shuns", "gap", "rains", "price",
+        "presses", "prints", "put", "road", "run", "sell", "plain", "stout", "sharp", "cat", "not", "and", "or"};
     static final String FOUR = "house hall stout thick 8 wet 40 ink 4;house inn sharp thick 4 wet 29 ink 2;"
             + "house tom cat thick 2 wet 16 ink 7;house shop plain thick 6 wet 32 ink 1;";
 
