@@ -9,6 +9,7 @@ import java.util.ArrayList;
 import java.util.Arrays;
 import java.util.HashSet;
 import java.util.List;
+import java.util.NoSuchElementException;
 import java.util.Set;
 import java.util.TreeSet;
 
@@ -24,7 +25,9 @@ public final class FaceTest {
 
     public static void main(String[] args) throws Exception {
         face();
+        thrown();
         namesApart();
+        sizes();
         source();
         c.end();
     }
@@ -62,6 +65,40 @@ public final class FaceTest {
             int how = inside.getModifiers();
             c.due(inside + " is static", Modifier.isStatic(how), true);
             c.due(inside + " is not public", Modifier.isPublic(how) || Modifier.isProtected(how), false);
+        }
+    }
+
+    /** Promises 29, 30: "throws NoSuchElementException": pin and rests say so, no other call says anything. */
+    private static void thrown() throws Exception {
+        for (Method method : MangleTown.class.getMethods()) {
+            if (method.getDeclaringClass() == MangleTown.class) {
+                boolean says = method.getName().equals("pin") || method.getName().equals("rests");
+                Class<?>[] told = method.getExceptionTypes();
+                c.due(method + " says what it throws", told.length, says ? 1 : 0);
+                c.due(method + " throws no other", told.length == 0 || told[0] == NoSuchElementException.class, true);
+            }
+        }
+        Constructor<?> made = MangleTown.class.getConstructor();
+        c.due("the constructor throws nothing", made.getExceptionTypes().length, 0);
+        Field none = MangleTown.class.getField("NONE");
+        int how = none.getModifiers();
+        c.due("NONE is an int", none.getType() == int.class, true);
+        c.due("NONE is static and final", Modifier.isStatic(how) && Modifier.isFinal(how), true);
+    }
+
+    /** Rules 5 and 11: what is static is final; some twelve classes, some twenty fields beside constants. */
+    private static void sizes() {
+        List<Class<?>> all = new ArrayList<>(Arrays.asList(MangleTown.class.getDeclaredClasses()));
+        all.add(MangleTown.class);
+        c.due(all.size() + " classes", all.size() <= 12, true);
+        for (Class<?> one : all) {
+            int fields = 0;
+            for (Field field : one.getDeclaredFields()) {
+                boolean isStatic = Modifier.isStatic(field.getModifiers());
+                fields += isStatic ? 0 : 1;
+                c.due(field + " is final", !isStatic || Modifier.isFinal(field.getModifiers()), true);
+            }
+            c.due(one + " has " + fields + " fields", fields <= 20, true);
         }
     }
 
